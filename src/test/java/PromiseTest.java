@@ -200,8 +200,8 @@ public final class PromiseTest {
         y.cut(3, 5, 1);
         due("9 toldAfter once told, alike now", y.toldAfter(0, 3), ProcessEquiv.NONE);
         for (int s : NO_STATES) {
-            due("9 toldAfter with no state " + s, x.toldAfter(0, s), ProcessEquiv.NONE);
-            due("9 toldAfter of no state " + s, x.toldAfter(s, 0), ProcessEquiv.NONE);
+            due("9 toldAfter with no state " + s, x.toldAfter(7, s), ProcessEquiv.NONE);
+            due("9 toldAfter of no state " + s, x.toldAfter(s, 7), ProcessEquiv.NONE);
         }
     }
 
@@ -225,6 +225,10 @@ public final class PromiseTest {
         ProcessEquiv behind = machine(0, 1, 1, 1, 2, 0, 2, 7, 0, 3, 7, 1);
         due("11 silent steps behind", behind.looselyAlike(0, 3), true);
         due("11 behind is no step", behind.looselyAlike(1, 7), true);
+        // 0 comes to 2 by the silent step behind its own, 3 by a step of its own
+        ProcessEquiv further = machine(0, 1, 1, 1, 2, 0, 1, 7, 2, 2, 7, 1, 3, 1, 1, 3, 2, 1);
+        due("11 a silent step behind that matters", further.looselyAlike(0, 3), true);
+        due("11 what lies before and behind it", further.looselyAlike(1, 2), false);
         due("11 one label for another", machine(0, 1, 1, 2, 3, 2).looselyAlike(0, 2), false);
         due("11 two steps are not one", machine(0, 1, 1, 1, 2, 1, 3, 4, 1).looselyAlike(0, 3), false);
         // 0 may silently give up its step with label 1, 4 may not
