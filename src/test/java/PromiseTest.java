@@ -394,6 +394,25 @@ public final class PromiseTest {
         due("call 512", x.toldAfter(0, 1), 7);
     }
 
+    /** Line by line the example of README.md. */
+    private static void readmeExample() {
+        ProcessEquiv x = new ProcessEquiv();
+        due("README join(0, 1, 1)", x.join(0, 1, 1), true);
+        due("README join(2, 3, 0)", x.join(2, 3, 0), true);
+        due("README join(3, 1, 1)", x.join(3, 1, 1), true);
+        due("README steps()", x.steps(), 3);
+        due("README alike(0, 3)", x.alike(0, 3), true);
+        due("README alike(0, 2)", x.alike(0, 2), false);
+        due("README group(0)", x.group(0), 9);
+        due("README toldAfter(0, 2)", x.toldAfter(0, 2), 1);
+        due("README looselyAlike(0, 2)", x.looselyAlike(0, 2), true);
+        due("README silently(2)", x.silently(2), 12);
+        due("README follows(0, 1)", x.follows(0, 1), true);
+        due("README idle(2, 3, 0)", x.idle(2, 3, 0), false);
+        x.cut(2, 3, 0);
+        due("README without that step", x.alike(2, 1), true);
+    }
+
     public static void main(String[] args) {
         promise1NewObject();
         promise2Join();
@@ -413,6 +432,7 @@ public final class PromiseTest {
         promise16Idle();
         promise17RefusedChangesNothing();
         lastCall();
+        readmeExample();
         System.out.println(wrong == 0 ? "all answers are as due" : wrong + " answers are not as due");
         if (wrong != 0) {
             System.exit(1);
